@@ -135,7 +135,7 @@ public final class SignRoots {
         expandWhole();
         int[] row = now.signs[number];
         for (int power = 0; power < SIGNS; power++) {
-            row[power] = Long.signum(whole[power]);
+            row[power] = signOf(whole[power]);
         }
         return degreeOf(row);
     }
@@ -396,6 +396,10 @@ public final class SignRoots {
 
     // ---- sums and products of signs
 
+    private static int signOf(long value) {
+        return value > 0 ? 1 : value < 0 ? -1 : 0;
+    }
+
     /** A sum of signs is told by the marks of all its signs, joined. */
     private static int markOf(int sign) {
         return sign > 0 ? PLUS : sign < 0 ? MINUS : 0;
@@ -595,7 +599,7 @@ public final class SignRoots {
     private int rootsOfSign(int sign) {
         int found = 0;
         for (int i = 0; i < now.rootCount && i < MOST_ROOTS; i++) {
-            if (Integer.signum(now.roots[i]) == sign) {
+            if (signOf(now.roots[i]) == sign) {
                 found++;
             }
         }
