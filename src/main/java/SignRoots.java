@@ -560,21 +560,24 @@ public final class SignRoots {
     /**
      * Tries the quotients, each with its own quotients, a division for each depth. A quotient has
      * fewer changes (or zeros below) than what it is a quotient of, so no chain is longer than
-     * these are: when one is that long, the quotients that are left can't be better.
+     * these are: a quotient that can't be better for having too few is passed by, and when a chain
+     * is as long as can be, the quotients that are left can't be better.
      */
     private static int tryQuotients(int[] row, int root, Division[] divisions, int depth) {
-        if (depth >= divisions.length) {
+        int limit = countedTimes(row, root);
+        if (limit == 0 || depth >= divisions.length) {
             return 0;
         }
-        int limit = countedTimes(row, root);
         int most = 0;
         Division division = divisions[depth];
         division.start(row, root);
         for (int i = 0; i < MANY_STEPS && most < limit && division.advance(); i++) {
-            int here = 1 + tryQuotients(division.quotient, root, divisions, depth + 1);
-            if (here > most) {
-                most = here;
-                division.rememberBest();
+            if (countedTimes(division.quotient, root) >= most) {
+                int here = 1 + tryQuotients(division.quotient, root, divisions, depth + 1);
+                if (here > most) {
+                    most = here;
+                    division.rememberBest();
+                }
             }
         }
         return most;

@@ -1,4 +1,7 @@
-/** Tests of the promises 1 to 26, one method for each, with answers worked out by hand. */
+/**
+ * Tests of the promises 1 to 26, one method for each, with answers worked out by hand (but for the
+ * 85 quotients, which a script found).
+ */
 public final class SignRootsTest {
     private static final String NO_NUMBER = "IndexOutOfBoundsException";
     private static final String WRONG = "IllegalArgumentException";
@@ -324,6 +327,9 @@ public final class SignRootsTest {
         for (int number : WRONG_NUMBERS) {
             refuses(x, "lower number", NO_NUMBER, () -> x.lower(number));
         }
+        SignRoots fresh = new SignRoots();
+        due("lower that changes nothing", fresh.lower(3), 0);
+        due("is undoable", fresh.count(7), 1);
         SignRoots y = withRoots(-1, -2, -3, -4, -5, -6, -7, -8);
         due("lower of degree 8", y.lower(1), 8);
         due("text", text(y, 1), "+++++++++");
@@ -866,6 +872,9 @@ public final class SignRootsTest {
         due("both kept", x.digest(), digestByCalls(x, new int[] {-7, 0, 4}, new int[] {1, 1}, "+~!"));
         x.unroot();
         due("unrooted", x.digest(), digestByCalls(x, new int[] {-7, 0}, new int[] {1, 1}, "+~!"));
+        set(x, 2, "+0+");
+        set(x, 4, "+0000000+");
+        due("with a share of 0.0", x.digest(), digestByCalls(x, new int[] {-7, 0}, new int[] {1, 1}, ""));
         SignRoots y = new SignRoots();
         y.root(2);
         y.root(3);
