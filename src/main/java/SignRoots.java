@@ -24,6 +24,9 @@ public final class SignRoots {
     /** Far above the steps that the quotients of any polynomial need. */
     private static final int MANY_STEPS = 1000000;
 
+    /** Nothing is known yet of how often a root can be taken out. */
+    private static final int UNKNOWN = -1;
+
     /** The marks of the signs in a sum; a sum with both marks has all three signs. */
     private static final int PLUS = 1;
 
@@ -43,6 +46,7 @@ public final class SignRoots {
     private int bufferLength = 0;
     private final long[] whole = new long[SIGNS];
     private final Division[] divisions = new Division[SIGNS];
+    private final Tried tried = new Tried();
 
     /** Creates polynomials that are 1, without whole roots, with empty slots and an empty buffer. */
     public SignRoots() {
@@ -91,7 +95,7 @@ public final class SignRoots {
         checkSign(root);
         save();
         int[] row = now.signs[number];
-        if (tryQuotients(row, root, divisions, 0) == 0) {
+        if (tryQuotients(row, root, divisions, tried, 0) == 0) {
             now.refused++;
             return NONE;
         }
@@ -254,7 +258,9 @@ public final class SignRoots {
         checkSign(root);
         checkWhat(what, 2);
         int[] row = now.signs[number];
-        return what == 0 ? tryQuotients(row, root, divisions, 0) : countedTimes(row, root);
+        return what == 0
+                ? tryQuotients(row, root, divisions, tried, 0)
+                : countedTimes(row, root);
     }
 
     /** Tells how many quotients by a root a polynomial has. */
@@ -270,7 +276,7 @@ public final class SignRoots {
             throws IndexOutOfBoundsException, IllegalArgumentException {
         checkNumber(number);
         checkSign(root);
-        return bestForm(tryQuotients(now.signs[number], root, divisions, 0));
+        return bestForm(tryQuotients(now.signs[number], root, divisions, tried, 0));
     }
 
     /** Tells how many rows of signs 0: a sum, 1: a product has; NONE above degree 8. */
@@ -553,31 +559,32 @@ public final class SignRoots {
     }
 
     /** The first division remembers the best quotient when the quotients have been tried. */
-    private int bestForm(int tried) {
-        return tried == 0 ? NONE : formOf(divisions[0].bestRow);
+    private int bestForm(int times) {
+        return times == 0 ? NONE : formOf(divisions[0].bestRow);
     }
 
     /**
-     * Tries the quotients, each with its own quotients, a division for each depth. A quotient has
-     * fewer changes (or zeros below) than what it is a quotient of, so no chain is longer than
-     * these are: a quotient that can't be better for having too few is passed by, and when a chain
-     * is as long as can be, the quotients that are left can't be better.
+     * Tries all quotients, each with all its own quotients, a division for each depth. What is known
+     * of a quotient from another chain, or an earlier call, isn't tried again.
      */
-    private static int tryQuotients(int[] row, int root, Division[] divisions, int depth) {
-        int limit = countedTimes(row, root);
-        if (limit == 0 || depth >= divisions.length) {
+    private static int tryQuotients(
+            int[] row, int root, Division[] divisions, Tried tried, int depth) {
+        if (depth >= divisions.length) {
             return 0;
         }
         int most = 0;
         Division division = divisions[depth];
         division.start(row, root);
-        for (int i = 0; i < MANY_STEPS && most < limit && division.advance(); i++) {
-            if (countedTimes(division.quotient, root) >= most) {
-                int here = 1 + tryQuotients(division.quotient, root, divisions, depth + 1);
-                if (here > most) {
-                    most = here;
-                    division.rememberBest();
-                }
+        for (int i = 0; i < MANY_STEPS && division.advance(); i++) {
+            int form = formOf(division.quotient);
+            int below = tried.timesOf(form, root);
+            if (below == UNKNOWN) {
+                below = tryQuotients(division.quotient, root, divisions, tried, depth + 1);
+                tried.remember(form, root, below);
+            }
+            if (below + 1 > most) {
+                most = below + 1;
+                division.rememberBest();
             }
         }
         return most;
@@ -663,10 +670,10 @@ public final class SignRoots {
             hash = mixed(hash, row[power]);
         }
         for (int root = -1; root <= 1; root++) {
-            int tried = tryQuotients(row, root, divisions, 0);
-            int best = bestForm(tried);
+            int times = tryQuotients(row, root, divisions, tried, 0);
+            int best = bestForm(times);
             hash = mixed(hash, hasRoot(row, root) ? 1 : 0);
-            hash = mixed(hash, tried);
+            hash = mixed(hash, times);
             hash = mixed(hash, countedTimes(row, root));
             hash = mixed(hash, quotientsOf(row, root));
             hash = mixed(hash, best);
@@ -805,6 +812,46 @@ public final class SignRoots {
             int below = power == 0 ? 0 : quotient[power - 1];
             int marks = markOf(below) | markOf(-root * quotient[power]);
             return holds(marks, dividend[power]);
+        }
+    }
+
+    /**
+     * How often each root can be taken out of the quotients that have been tried. The chains of one
+     * polynomial have up to 8,187 quotients, but only up to 314 different ones. This never changes
+     * with the state, so it's never forgotten. It is held in four bits each, to keep the object small.
+     */
+    private static final class Tried {
+        /** The forms of quotients begin here, as their sign of the power 8 is 0. */
+        private static final int LEAST_FORM = 6561;
+
+        private static final int FORMS = 6561;
+        private static final int ROOTS = 3;
+        private static final int PLACES = FORMS * ROOTS;
+        private static final int BITS = 4;
+        private static final int PLACES_IN_ONE = 16;
+        private static final long MASK = 15;
+
+        /** At each place 1 more than how often; 0 if it is not known. */
+        private final long[] packed = new long[PLACES / PLACES_IN_ONE + 1];
+
+        int timesOf(int form, int root) {
+            int place = placeOf(form, root);
+            if (place < 0 || place >= PLACES) {
+                return UNKNOWN;
+            }
+            long held = packed[place / PLACES_IN_ONE] >>> (place % PLACES_IN_ONE * BITS);
+            return (int) (held & MASK) - 1;
+        }
+
+        void remember(int form, int root, int times) {
+            int place = placeOf(form, root);
+            if (place >= 0 && place < PLACES) {
+                packed[place / PLACES_IN_ONE] |= (times + 1L) << (place % PLACES_IN_ONE * BITS);
+            }
+        }
+
+        private static int placeOf(int form, int root) {
+            return (form - LEAST_FORM) * ROOTS + root + 1;
         }
     }
 }

@@ -27,7 +27,7 @@ public final class LanguageTest {
     };
 
     /** All that may stand in the code with a capital letter ahead, beside constants. */
-    private static final Set<String> NAMES = Set.of("SignRoots", "State", "Division", "System",
+    private static final Set<String> NAMES = Set.of("SignRoots", "State", "Division", "Tried", "System",
         "IndexOutOfBoundsException", "IllegalArgumentException", "IllegalStateException");
 
     private static final Pattern METHOD =
